@@ -1,0 +1,107 @@
+import java.lang.reflect.Constructor;
+import java.lang.reflect.Field;
+import java.lang.reflect.Method;
+import java.lang.reflect.Modifier;
+import java.nio.file.Files;
+import java.nio.file.Path;
+import java.util.Arrays;
+import java.util.HashSet;
+import java.util.List;
+import java.util.Set;
+import java.util.TreeSet;
+import java.util.regex.Matcher;
+import java.util.regex.Pattern;
+
+/** The public face and the constants, and the rules of LANGUAGE.md that can be read off the class or its text. */
+public final class FaceTest {
+    private static final Check check = new Check("FaceTest");
+    private static final List<String> FACE = List.of(
+        "set 3", "wall 4", "weight 2", "fade 0", "scan 2", "point 2", "look 3", "stamp 2", "points 0", "score 1",
+        "best 0", "match 0", "matchNear 3", "atLeast 1", "rival 0");
+    private static final Set<String> FIELD_TYPES = Set.of(
+        "int", "long", "short", "byte", "char", "boolean", "int[]", "long[]", "short[]", "byte[]", "char[]", "boolean[]");
+
+    public static void main(String[] args) throws Exception {
+        constants();
+        publicFace();
+        fields();
+        text();
+        check.end();
+    }
+
+    private static void constants() {
+        check.due("BAD_ARG", ScanMatcher.BAD_ARG, -1);
+        check.due("FULL", ScanMatcher.FULL, -2);
+        check.due("NONE", ScanMatcher.NONE, -4);
+    }
+
+    private static void publicFace() {
+        Class<?> c = ScanMatcher.class;
+        check.holds("the class is public and final", c.getModifiers() == (Modifier.PUBLIC | Modifier.FINAL));
+        check.holds("it has no superclass of its own", c.getSuperclass() == Object.class && c.getInterfaces().length == 0);
+        check.due("nested classes", c.getDeclaredClasses().length, 0);
+        Constructor<?>[] made = c.getDeclaredConstructors();
+        check.holds("one public constructor", made.length == 1 && Modifier.isPublic(made[0].getModifiers()));
+        check.due("the constructor's parameters", made[0].getParameterCount(), 0);
+
+        Set<String> open = new TreeSet<>();
+        Set<String> openNames = new HashSet<>();
+        for (Method m : c.getDeclaredMethods()) {
+            if (!Modifier.isPrivate(m.getModifiers())) {
+                check.holds(m + " is just public", m.getModifiers() == Modifier.PUBLIC);
+                boolean ints = m.getReturnType() == int.class
+                    && Arrays.stream(m.getParameterTypes()).allMatch(t -> t == int.class);
+                check.holds(m + " is over int alone", ints);
+                open.add(m.getName() + " " + m.getParameterCount());
+                openNames.add(m.getName());
+            }
+        }
+        check.holds("the public methods are the document's: " + open, open.equals(new TreeSet<>(FACE)));
+        for (Method m : c.getDeclaredMethods()) {
+            if (Modifier.isPrivate(m.getModifiers())) {
+                check.holds(m + " bears a name of its own", !openNames.contains(m.getName()));
+                check.holds(m + " takes seven parameters at most", m.getParameterCount() <= 7);
+            }
+        }
+    }
+
+    private static void fields() {
+        Set<String> open = new TreeSet<>();
+        int own = 0;
+        for (Field f : ScanMatcher.class.getDeclaredFields()) {
+            int mods = f.getModifiers();
+            if (!Modifier.isPrivate(mods)) {
+                open.add(f.getName());
+            }
+            if (Modifier.isStatic(mods)) {
+                boolean number = f.getType() == int.class || f.getType() == long.class;
+                check.holds(f + " is a constant of int or long", number && Modifier.isFinal(mods));
+            } else {
+                own++;
+                check.holds(f + " is of a type that is allowed", FIELD_TYPES.contains(f.getType().getSimpleName()));
+            }
+        }
+        check.holds("the public constants are the document's: " + open, open.equals(Set.of("BAD_ARG", "FULL", "NONE")));
+        check.holds("at most forty fields", own <= 40);
+    }
+
+    private static void text() throws Exception {
+        String source = Files.readString(Path.of("src/main/java/ScanMatcher.java"));
+        String code = source.replaceAll("(?s)/\\*.*?\\*/", " ").replaceAll("//[^\n]*", " ");
+        String banned = "package|import|float|double|String|Math|Integer|System|Arrays|Object|null|throw|throws|try|catch"
+            + "|finally|synchronized|assert|instanceof|interface|enum|record|extends|implements|var|protected|native"
+            + "|Thread|volatile|super|equals|hashCode|toString|getClass|clone|notify|wait";
+        Matcher word = Pattern.compile("\\b(" + banned + ")\\b|->|::|\"|static\\s*\\{").matcher(code);
+        while (word.find()) {
+            check.holds("the class does without " + word.group(), false);
+        }
+        Matcher made = Pattern.compile("new\\b[^;]*").matcher(code);
+        while (made.find()) {
+            int line = code.lastIndexOf('\n', made.start());
+            String field = code.substring(line + 1, made.end());
+            check.holds("made in a field's initialiser: " + field,
+                field.matches(" {4}private final (\\w+)\\[\\] \\w+ = new \\1\\[\\w+\\]"));
+        }
+        check.holds("the text was read", code.contains("public final class ScanMatcher {"));
+    }
+}
