@@ -14,11 +14,13 @@ public final class PoseTest {
         promise13MatchIsTheFirst();
         promise14MatchNearSquare();
         promise14MatchNearIsTheFirst();
+        promise14MatchNearKeepsToItsTurn();
         promise14MatchNearAtTheEdge();
         promise14MatchNearRefused();
         promise15AtLeast();
         promise16RivalNearAndFar();
         promise16RivalInAnotherTurn();
+        promise16RivalInTheLastPose();
         promise16RivalOfAnEmptyMap();
         check.end();
     }
@@ -176,6 +178,29 @@ public final class PoseTest {
         check.due("the lesser x comes first in a row", m.matchNear(3, pose(4, 4, 0), 1), pose(3, 3, 3));
     }
 
+    private static void promise14MatchNearKeepsToItsTurn() {
+        ScanMatcher m = new ScanMatcher();
+        m.point(5, 0);
+        m.point(0, -4);
+        // the three points at (0, 0) in turn 1, the first pose after those of turn 0
+        m.set(0, 0, 9);
+        m.set(0, 5, 9);
+        m.set(4, 0, 9);
+        check.due("match() in the first pose of turn 1", m.match(), 256);
+        check.due("matchNear in turn 0", m.matchNear(0, 0, 15), 0);
+        check.due("matchNear in turn 1", m.matchNear(1, 0, 15), 256);
+        // and at (15, 15) in turn 3, the last pose of all
+        m = new ScanMatcher();
+        m.point(5, 0);
+        m.point(0, -4);
+        m.set(15, 15, 9);
+        m.set(15, 10, 9);
+        m.set(11, 15, 9);
+        check.due("match() in the last pose", m.match(), 1023);
+        check.due("matchNear in turn 3", m.matchNear(3, 255, 15), 1023);
+        check.due("atLeast(27) in the last pose", m.atLeast(27), 1);
+    }
+
     private static void promise14MatchNearAtTheEdge() {
         ScanMatcher m = new ScanMatcher();
         check.due("at (0, 0), d = 2", m.matchNear(1, 0, 2), pose(0, 0, 1));
@@ -238,7 +263,7 @@ public final class PoseTest {
         for (int[] o : near) {
             rivalInTheSameTurn(o[0], o[1], false);
         }
-        int[][] far = {{3, 0}, {0, 3}, {-3, 0}, {0, -3}, {3, 2}, {2, -3}, {-3, -3}, {-1, 4}, {4, 1}};
+        int[][] far = {{3, 0}, {0, 3}, {-3, 0}, {0, -3}, {3, 2}, {2, -3}, {-3, -3}, {-1, 4}, {4, 1}, {-6, -6}};
         for (int[] o : far) {
             rivalInTheSameTurn(o[0], o[1], true);
         }
@@ -280,6 +305,21 @@ public final class PoseTest {
         m.set(5, 12, 3);
         check.due("best() of three", m.best(), 14);
         check.due("two of the three", m.rival(), 11);
+    }
+
+    private static void promise16RivalInTheLastPose() {
+        ScanMatcher m = new ScanMatcher();
+        m.point(5, 0);
+        m.point(0, -4);
+        m.set(5, 5, 9);
+        m.set(10, 5, 9);
+        m.set(5, 1, 9);
+        m.set(15, 15, 8);
+        m.set(15, 10, 8);
+        m.set(11, 15, 8);
+        check.due("match() in turn 0", m.match(), pose(5, 5, 0));
+        check.due("score(1023)", m.score(1023), 24);
+        check.due("rival() in the last pose", m.rival(), 24);
     }
 
     private static void promise16RivalOfAnEmptyMap() {

@@ -19,6 +19,7 @@ public final class ScanTest {
         promise8LookAtTheEdge();
         promise8LookRefused();
         promise9Stamp();
+        promise9StampSums();
         promise9StampTurned();
         promise9StampTwoPointsOnOneCell();
         promise9StampAtTheEdge();
@@ -228,6 +229,17 @@ public final class ScanTest {
         check.map("stamp with 1", m, 4, 6, 9, 5, 6, 9, 6, 6, 9, 7, 6, 9, 8, 6, 1);
         check.due("the scan stays: points()", m.points(), 3);
         check.due("the scan stays: score(84)", m.score(84), 27);
+    }
+
+    private static void promise9StampSums() {
+        ScanMatcher m = new ScanMatcher();
+        for (int before = 0; before <= 9; before++) {
+            for (int w = 1; w <= 9; w++) {
+                m.set(6, 2, before);
+                check.due("stamp(38, " + w + ") on " + before, m.stamp(38, w), 1);
+                check.due("weight after stamp(38, " + w + ") on " + before, m.weight(6, 2), Math.min(9, before + w));
+            }
+        }
     }
 
     private static void promise9StampTurned() {
