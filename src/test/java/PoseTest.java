@@ -1,6 +1,5 @@
 /** Promises 11 to 16: score, best, match, matchNear, atLeast, rival. */
 public final class PoseTest {
-    private static final int BAD = ScanMatcher.BAD_ARG;
     private static final int LOW = Integer.MIN_VALUE;
     private static final int HIGH = Integer.MAX_VALUE;
     private static final Check check = new Check("PoseTest");
@@ -8,19 +7,14 @@ public final class PoseTest {
     public static void main(String[] args) {
         promise11ScoreInEachTurn();
         promise11ScoreSums();
-        promise11ScoreRefused();
         promise12Best();
         promise13MatchIsTheGreatest();
         promise13MatchIsTheFirst();
         promise14MatchNearSquare();
         promise14MatchNearIsTheFirst();
-        promise14MatchNearKeepsToItsTurn();
-        promise14MatchNearAtTheEdge();
-        promise14MatchNearRefused();
         promise15AtLeast();
         promise16RivalNearAndFar();
         promise16RivalInAnotherTurn();
-        promise16RivalInTheLastPose();
         promise16RivalOfAnEmptyMap();
         check.end();
     }
@@ -65,17 +59,6 @@ public final class PoseTest {
         check.due("far away", m.score(pose(15, 15, 2)), 5);
     }
 
-    private static void promise11ScoreRefused() {
-        ScanMatcher m = new ScanMatcher();
-        m.set(0, 0, 1);
-        m.set(15, 15, 2);
-        for (int p : new int[] {-1, 1024, 1025, -1024, LOW, HIGH}) {
-            check.due("score(" + p + ")", m.score(p), BAD);
-        }
-        check.due("score(0)", m.score(0), 1);
-        check.due("score(1023)", m.score(1023), 2);
-    }
-
     private static void promise12Best() {
         ScanMatcher m = new ScanMatcher();
         check.due("best() of an empty map", m.best(), 0);
@@ -90,9 +73,7 @@ public final class PoseTest {
         check.due("best() of both points, turned", m.best(), 5);
         m.fade();
         check.due("best() after a fade", m.best(), 3);
-        for (int y = 0; y < 16; y++) {
-            m.wall(0, y, 0, 16 * 16 + 9);
-        }
+        Scene.fill(m, 9);
         for (int n = 3; n <= 10; n++) {
             m.point(n - 5, 5 - n);
         }
@@ -170,62 +151,6 @@ public final class PoseTest {
             check.due("matchNear in turn " + r, m.matchNear(r, pose(4, 4, 0), 1), first[r]);
             check.due("matchNear in turn " + r + ", d = 15", m.matchNear(r, pose(9, 9, 0), 15), first[r]);
         }
-        m.scan(0, 0);
-        m.set(3, 5, 7);
-        m.set(5, 3, 7);
-        check.due("the lesser y comes first", m.matchNear(3, pose(4, 4, 0), 1), pose(5, 3, 3));
-        m.set(3, 3, 7);
-        check.due("the lesser x comes first in a row", m.matchNear(3, pose(4, 4, 0), 1), pose(3, 3, 3));
-    }
-
-    private static void promise14MatchNearKeepsToItsTurn() {
-        ScanMatcher m = new ScanMatcher();
-        m.point(5, 0);
-        m.point(0, -4);
-        // the three points at (0, 0) in turn 1, the first pose after those of turn 0
-        m.set(0, 0, 9);
-        m.set(0, 5, 9);
-        m.set(4, 0, 9);
-        check.due("match() in the first pose of turn 1", m.match(), 256);
-        check.due("matchNear in turn 0", m.matchNear(0, 0, 15), 0);
-        check.due("matchNear in turn 1", m.matchNear(1, 0, 15), 256);
-        // and at (15, 15) in turn 3, the last pose of all
-        m = new ScanMatcher();
-        m.point(5, 0);
-        m.point(0, -4);
-        m.set(15, 15, 9);
-        m.set(15, 10, 9);
-        m.set(11, 15, 9);
-        check.due("match() in the last pose", m.match(), 1023);
-        check.due("matchNear in turn 3", m.matchNear(3, 255, 15), 1023);
-        check.due("atLeast(27) in the last pose", m.atLeast(27), 1);
-    }
-
-    private static void promise14MatchNearAtTheEdge() {
-        ScanMatcher m = new ScanMatcher();
-        check.due("at (0, 0), d = 2", m.matchNear(1, 0, 2), pose(0, 0, 1));
-        check.due("at (15, 15), d = 2", m.matchNear(1, 255, 2), pose(13, 13, 1));
-        check.due("at (15, 15), d = 15", m.matchNear(3, 255, 15), pose(0, 0, 3));
-        m.set(15, 15, 1);
-        check.due("at (0, 0), d = 15", m.matchNear(3, 0, 15), 1023);
-        check.due("at (0, 0), d = 14", m.matchNear(3, 0, 14), 768);
-        m.set(15, 3, 8);
-        check.due("the square does not go on at the other side", m.matchNear(0, pose(0, 4, 0), 1), pose(0, 3, 0));
-    }
-
-    private static void promise14MatchNearRefused() {
-        ScanMatcher m = new ScanMatcher();
-        m.set(4, 4, 7);
-        for (int r : new int[] {-1, 4, LOW, HIGH, 1 << 24}) {
-            check.due("matchNear(" + r + ", 0, 0)", m.matchNear(r, 0, 0), BAD);
-        }
-        for (int place : new int[] {-1, 256, 1023, LOW, HIGH}) {
-            check.due("matchNear(0, " + place + ", 0)", m.matchNear(0, place, 0), BAD);
-        }
-        for (int d : new int[] {-1, 16, LOW, HIGH}) {
-            check.due("matchNear(0, 0, " + d + ")", m.matchNear(0, 0, d), BAD);
-        }
-        check.due("matchNear(3, 255, 15)", m.matchNear(3, 255, 15), pose(4, 4, 3));
     }
 
     private static void promise15AtLeast() {
@@ -247,9 +172,7 @@ public final class PoseTest {
         m.point(1, 0);
         check.due("twice the weight", m.atLeast(10), 2);
         check.due("one more than twice the weight", m.atLeast(11), 0);
-        for (int y = 0; y < 16; y++) {
-            m.wall(0, y, 0, 16 * 16 + 9);
-        }
+        Scene.fill(m, 9);
         m.scan(0, 0);
         for (int n = 2; n <= 10; n++) {
             m.point(0, 0);
@@ -305,21 +228,6 @@ public final class PoseTest {
         m.set(5, 12, 3);
         check.due("best() of three", m.best(), 14);
         check.due("two of the three", m.rival(), 11);
-    }
-
-    private static void promise16RivalInTheLastPose() {
-        ScanMatcher m = new ScanMatcher();
-        m.point(5, 0);
-        m.point(0, -4);
-        m.set(5, 5, 9);
-        m.set(10, 5, 9);
-        m.set(5, 1, 9);
-        m.set(15, 15, 8);
-        m.set(15, 10, 8);
-        m.set(11, 15, 8);
-        check.due("match() in turn 0", m.match(), pose(5, 5, 0));
-        check.due("score(1023)", m.score(1023), 24);
-        check.due("rival() in the last pose", m.rival(), 24);
     }
 
     private static void promise16RivalOfAnEmptyMap() {
