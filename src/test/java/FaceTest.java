@@ -2,17 +2,13 @@ import java.lang.reflect.Constructor;
 import java.lang.reflect.Field;
 import java.lang.reflect.Method;
 import java.lang.reflect.Modifier;
-import java.nio.file.Files;
-import java.nio.file.Path;
 import java.util.Arrays;
 import java.util.HashSet;
 import java.util.List;
 import java.util.Set;
 import java.util.TreeSet;
-import java.util.regex.Matcher;
-import java.util.regex.Pattern;
 
-/** The public face and the constants, and the rules of LANGUAGE.md that can be read off the class or its text. */
+/** The public face and the constants, read off the compiled class, and with them rule 1 of LANGUAGE.md. */
 public final class FaceTest {
     private static final Check check = new Check("FaceTest");
     private static final List<String> FACE = List.of(
@@ -21,11 +17,10 @@ public final class FaceTest {
     private static final Set<String> FIELD_TYPES = Set.of(
         "int", "long", "short", "byte", "char", "boolean", "int[]", "long[]", "short[]", "byte[]", "char[]", "boolean[]");
 
-    public static void main(String[] args) throws Exception {
+    public static void main(String[] args) {
         constants();
         publicFace();
         fields();
-        text();
         check.end();
     }
 
@@ -83,25 +78,5 @@ public final class FaceTest {
         }
         check.holds("the public constants are the document's: " + open, open.equals(Set.of("BAD_ARG", "FULL", "NONE")));
         check.holds("at most forty fields", own <= 40);
-    }
-
-    private static void text() throws Exception {
-        String source = Files.readString(Path.of("src/main/java/ScanMatcher.java"));
-        String code = source.replaceAll("(?s)/\\*.*?\\*/", " ").replaceAll("//[^\n]*", " ");
-        String banned = "package|import|float|double|String|Math|Integer|System|Arrays|Object|null|throw|throws|try|catch"
-            + "|finally|synchronized|assert|instanceof|interface|enum|record|extends|implements|var|protected|native"
-            + "|Thread|volatile|super|equals|hashCode|toString|getClass|clone|notify|wait";
-        Matcher word = Pattern.compile("\\b(" + banned + ")\\b|->|::|\"|static\\s*\\{").matcher(code);
-        while (word.find()) {
-            check.holds("the class does without " + word.group(), false);
-        }
-        Matcher made = Pattern.compile("new\\b[^;]*").matcher(code);
-        while (made.find()) {
-            int line = code.lastIndexOf('\n', made.start());
-            String field = code.substring(line + 1, made.end());
-            check.holds("made in a field's initialiser: " + field,
-                field.matches(" {4}private final (\\w+)\\[\\] \\w+ = new \\1\\[\\w+\\]"));
-        }
-        check.holds("the text was read", code.contains("public final class ScanMatcher {"));
     }
 }
